@@ -1014,7 +1014,6 @@ public final class SearchKeeper {
                 return;
             }
             kinds[node] = NO_ACT;
-            arePutOff[node] = false;
             int kept = 0;
             for (int place = 0; place < many && place < MOST_NODES; place++) {
                 if (order[place] != node && kept < MOST_NODES) {

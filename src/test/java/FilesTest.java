@@ -316,6 +316,28 @@ public final class FilesTest {
         Check.due(3, () -> x.move(5, 2, 'g'));
         Check.due(true, () -> x.mayRead(2, 5));
 
+        Check.promise(9, "58 folders above the deepest node, and the top above them");
+        SearchKeeper deep = new SearchKeeper();
+        for (int node = 1; node < 60; node++) {
+            deep.make(node - 1, 'd', node < 59);
+        }
+        Check.due(true, () -> deep.mayRead(3, 59));
+        deep.people(0, 7);
+        Check.due(false, () -> deep.mayRead(3, 59));
+        Check.due(STATE, () -> deep.move(1, 58, 'e'));
+        Check.due(1, () -> deep.watch(0));
+        Check.due(2, () -> deep.write(59, 1));
+        Check.due(1, () -> deep.notices(0));
+        Check.due(STATE, () -> deep.watch(58));
+        // The notice, the text in two steps, 59 looks, and 59 folders crawled.
+        Check.due(121, () -> deep.work(500));
+        Check.due(0, deep::stale);
+        Check.due(1, () -> deep.answers(0, 1, NONE, 0));
+        Check.due(1, () -> deep.answersAnew(0, 1, NONE, 0));
+        Check.due(59, () -> deep.remove(1));
+        Check.due(2, () -> deep.work(500));
+        Check.due(0, deep::entries);
+
         Check.promise(9, "wrong inputs");
         Check.due(INDEX, () -> x.mayRead(-1, 5) ? 1 : 0);
         Check.due(INDEX, () -> x.mayRead(4, 5) ? 1 : 0);

@@ -129,7 +129,10 @@ public final class IndexTest {
         // 3/3 goes.
         is(x, 3, 0);
         reread(x, 5);
-        // 4/1, 4/0, 1/0, 1/0.
+        // 4/1, 4/0, 1/0, 1/0: the last two, of 4 and of 5, become one.
+        is(x, 3, 1);
+        reread(x, 4, 5);
+        // That goes as a whole: 4/1, 4/0, 2/0.
         is(x, 3, 1);
     }
 

@@ -14,6 +14,8 @@ public final class ModelTest {
     private final int wordCount;
     private final int wrongPart;
     private final int containerPart;
+    /** 0: plain; 1: little work at a time; 2: watching changes often; 3: folders, moves, losses. */
+    private final int style;
     private int made = 1;
     private boolean isSame = true;
 
@@ -21,6 +23,7 @@ public final class ModelTest {
         random = new Random(seed);
         nameCount = 2 + random.nextInt(25);
         wordCount = 1 + random.nextInt(6);
+        style = random.nextInt(4);
         containerPart = isOneIn(2) ? 1000 : 6 + random.nextInt(10);
         wrongPart = 10 + random.nextInt(60);
     }
@@ -41,13 +44,12 @@ public final class ModelTest {
     }
 
     private void run() {
-        int style = random.nextInt(4);
         for (int i = 0; i < 6; i++) {
             make();
         }
-        watch(style);
+        watch();
         for (int i = 0; i < ACTIONS && isSame; i++) {
-            act(style);
+            act();
             observe();
         }
     }
@@ -122,7 +124,7 @@ public final class ModelTest {
         return isOneIn(3) ? -1 : isOneIn(2) ? folder() : root();
     }
 
-    private void act(int style) {
+    private void act() {
         int chance = random.nextInt(100);
         if (chance < 14) {
             make();
@@ -140,7 +142,7 @@ public final class ModelTest {
         } else if (chance < 51) {
             people();
         } else if (chance < (style == 2 ? 56 : 53)) {
-            watch(style);
+            watch();
         } else if (chance < 60) {
             spoil();
         } else if (chance < 63) {
@@ -148,8 +150,8 @@ public final class ModelTest {
         } else if (chance < 65) {
             limits();
         } else if (chance < 83) {
-            work(style);
-        } else if (chance < 85) {
+            work();
+        } else if (chance < (style == 3 ? 88 : 85)) {
             int root = root();
             compare("crawl(" + root + ")", () -> keeper.crawl(root), () -> model.crawl(root));
         } else {
@@ -160,7 +162,7 @@ public final class ModelTest {
     private void make() {
         int parent = folder();
         char name = name();
-        boolean isFolder = isOneIn(2);
+        boolean isFolder = style == 3 ? !isOneIn(4) : isOneIn(2);
         compare("make(" + parent + ", " + name + ", " + isFolder + ")",
                 () -> keeper.make(parent, name, isFolder), () -> model.make(parent, name, isFolder));
         while (Check.answerOf(() -> model.edition(made)) != Check.INDEX) {
@@ -179,11 +181,16 @@ public final class ModelTest {
     }
 
     private void move() {
+        boolean isLost = style == 3 && isOneIn(2);
         int node = any();
         int parent = folder();
         char name = name();
         compare("move(" + node + ", " + parent + ", " + name + ")",
                 () -> keeper.move(node, parent, name), () -> model.move(node, parent, name));
+        if (isLost) {
+            int root = root();
+            compare("lose(" + root + ", 1)", () -> keeper.lose(root, 1), () -> model.lose(root, 1));
+        }
     }
 
     private void remove() {
@@ -205,7 +212,7 @@ public final class ModelTest {
                 () -> keeper.people(node, people), () -> model.people(node, people));
     }
 
-    private void watch(int style) {
+    private void watch() {
         int folder = isOneIn(style == 2 ? 2 : 12) ? root() : folder();
         compare("watch(" + folder + ")", () -> keeper.watch(folder), () -> model.watch(folder));
     }
@@ -239,10 +246,10 @@ public final class ModelTest {
                 () -> keeper.limits(depth, words), () -> model.limits(depth, words));
     }
 
-    private void work(int style) {
-        boolean isShort = style == 1 || isOneIn(2);
+    private void work() {
+        boolean isShort = style == 1 || style == 3 || isOneIn(2);
         int steps = isOneIn(wrongPart) ? random.nextInt(520) - 10
-                : isShort ? 1 + random.nextInt(8) : 1 + random.nextInt(500);
+                : isShort ? 1 + random.nextInt(style == 3 ? 3 : 8) : 1 + random.nextInt(500);
         compare("work(" + steps + ")", () -> keeper.work(steps), () -> model.work(steps));
     }
 

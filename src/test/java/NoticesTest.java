@@ -117,6 +117,16 @@ public final class NoticesTest {
         Check.due(0, x::entries);
         Check.due(true, x::isQuiet);
 
+        Check.promise(6, "what is watched no more may go without a trace");
+        Check.due(8, () -> x.make(3, 'b', false));
+        x.work(500);
+        Check.due(1, x::entries);
+        x.watch(2);
+        x.work(500);
+        Check.due(true, x::isQuiet);
+        Check.due(1, () -> x.remove(2));
+        Check.due(0, x::acts);
+
         Check.promise(6, "two roots gone at once");
         SearchKeeper y = small();
         y.make(1, 'b', true);

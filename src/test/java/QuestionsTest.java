@@ -338,6 +338,17 @@ public final class QuestionsTest {
         w.work(500);
         Check.due(NONE, () -> w.closest(0, 3, 1, 1));
 
+        Check.promise(30, "words of an edition before do not count");
+        SearchKeeper old = oneText(1, 2, 2);
+        old.empty(2);
+        old.write(2, 1);
+        old.work(500);
+        Check.due(NONE, () -> old.closest(0, 2, 1, 2));
+        Check.due(NONE, () -> old.closest(0, 2, 2, 1));
+        Check.due(NONE, () -> old.closest(0, 2, 1, 1));
+        Check.due(0, () -> old.answers(0, 2, NONE, NONE));
+        Check.due(102, () -> old.answer(0, 1, NONE, 0));
+
         Check.promise(30, "in the entry, not in the file of now");
         w.empty(2);
         Check.due(200, () -> w.closest(0, 2, 6, 8));

@@ -23,6 +23,7 @@ public final class WorkTest {
         crawls();
         crawlsMeetAndMiss();
         crawlsOfMovedFolders();
+        waitingFolders();
         circles();
         acts();
         editions();
@@ -488,6 +489,21 @@ public final class WorkTest {
         Check.due(3, x::entries);
         Check.due(true, x::isQuiet);
 
+        Check.promise(18, "what comes behind it is done before the work ends");
+        SearchKeeper w = known();
+        w.lock(2, true);
+        w.move(2, 1, 'z');
+        w.make(4, 'k', false);
+        w.lose(1, 1);
+        w.crawl(1);
+        // The notice, the look that is put off, two folders crawled, and the file in the second one.
+        Check.due(5, () -> w.work(500));
+        Check.due(1, () -> w.edition(6));
+        Check.due(1, w::acts);
+        w.lock(2, false);
+        Check.due(1, () -> w.work(500));
+        Check.due(0, w::stale);
+
         Check.promise(18, "a locked file that is known, or gone from all roots");
         SearchKeeper y = known();
         y.lock(2, true);
@@ -612,6 +628,71 @@ public final class WorkTest {
         Check.due(1, () -> x.work(500));
         Check.due(true, x::isQuiet);
         Check.due(2, x::entries);
+    }
+
+    /** A root 1 with the folders 2 (a), 3 (b) and 4 (c); the crawl has met them, and they wait. */
+    private static SearchKeeper waiting() {
+        SearchKeeper x = new SearchKeeper();
+        x.make(0, 'r', true);
+        x.make(1, 'a', true);
+        x.make(1, 'b', true);
+        x.make(1, 'c', true);
+        x.watch(1);
+        x.work(500);
+        x.crawl(1);
+        Check.due(1, () -> x.work(1));
+        return x;
+    }
+
+    private static void waitingFolders() {
+        Check.promise(18, "folders wait in the order in which they were met");
+        SearchKeeper x = waiting();
+        x.make(2, 'f', false);
+        x.make(3, 'g', false);
+        x.make(4, 'h', false);
+        x.lose(1, 8);
+        Check.due(2, () -> x.work(2));
+        Check.due(1, () -> x.edition(5));
+        Check.due(2, () -> x.work(2));
+        Check.due(1, () -> x.edition(6));
+        Check.due(NONE, () -> x.edition(7));
+        Check.due(2, () -> x.work(500));
+        Check.due(1, () -> x.edition(7));
+
+        Check.promise(18, "what waits already does not wait once more");
+        SearchKeeper y = waiting();
+        y.move(4, 2, 'c');
+        y.lose(1, 8);
+        // Folder 2, the look at 4 in it, and then 3 and 4.
+        Check.due(4, () -> y.work(500));
+        Check.due(true, y::isQuiet);
+
+        Check.promise(18, "what waited before, and is met again, waits again");
+        SearchKeeper z = waiting();
+        Check.due(1, () -> z.work(1));
+        z.move(2, 4, 'a');
+        z.lose(1, 8);
+        // The folders 3 and 4, the look at 2 in it, and 2.
+        Check.due(4, () -> z.work(500));
+        Check.due(true, z::isQuiet);
+
+        Check.promise(18, "a crawl that begins anew forgets what it met and what waited");
+        SearchKeeper w = waiting();
+        w.crawl(1);
+        w.remove(4);
+        w.lose(1, 8);
+        Check.due(3, () -> w.work(3));
+        Check.due(1, w::acts);
+        Check.due(1, () -> w.work(500));
+        Check.due(2, w::entries);
+        SearchKeeper top = new SearchKeeper();
+        top.watch(0);
+        top.make(0, 'a', false);
+        Check.due(3, () -> top.work(500));
+        Check.due(1, () -> top.crawl(0));
+        Check.due(1, () -> top.crawl(0));
+        Check.due(1, () -> top.work(500));
+        Check.due(true, top::isQuiet);
     }
 
     private static void circles() {
