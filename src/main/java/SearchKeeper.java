@@ -179,7 +179,7 @@ public final class SearchKeeper {
         if (roots.isFull() || roots.holding(folder) != null || roots.hasAtOrBelow(folder)) {
             throw new IllegalStateException("three are watched, or one above or below it");
         }
-        roots.begin(folder);
+        roots.add(folder);
         return roots.count();
     }
 
@@ -561,7 +561,7 @@ public final class SearchKeeper {
         private int many;
         private boolean isFlooded;
 
-        void begin(int watched) {
+        void startAt(int watched) {
             folder = watched;
             many = 0;
             isFlooded = false;
@@ -569,7 +569,7 @@ public final class SearchKeeper {
         }
 
         void beginCrawl() {
-            crawl.begin(folder);
+            crawl.startAnew(folder);
         }
 
         void tell(int kind, int node) {
@@ -623,7 +623,7 @@ public final class SearchKeeper {
         private int many;
         private boolean goesOn;
 
-        void begin(int root) {
+        void startAnew(int root) {
             for (int node = 0; node < MOST_NODES; node++) {
                 isWaiting[node] = false;
                 wasMet[node] = false;
@@ -764,13 +764,13 @@ public final class SearchKeeper {
             }
         }
 
-        void begin(int folder) {
+        void add(int folder) {
             if (many < 0 || many >= MOST_WATCHED) {
                 return;
             }
             Root root = rows[many];
             if (root != null) {
-                root.begin(folder);
+                root.startAt(folder);
                 many++;
             }
         }
@@ -1060,7 +1060,7 @@ public final class SearchKeeper {
             return many;
         }
 
-        int countDead() {
+        int countBuried() {
             int places = 0;
             for (int segment = 0; segment < many && segment <= MOST_SEGMENTS; segment++) {
                 places += buried[segment];
@@ -1177,7 +1177,7 @@ public final class SearchKeeper {
         }
 
         int countDead() {
-            return index.countDead();
+            return index.countBuried();
         }
 
         void lookAtAllEntries() {

@@ -131,9 +131,12 @@ public final class IndexTest {
         reread(x, 5);
         // 4/1, 4/0, 1/0, 1/0: the last two, of 4 and of 5, become one.
         is(x, 3, 1);
-        reread(x, 4, 5);
-        // That goes as a whole: 4/1, 4/0, 2/0.
-        is(x, 3, 1);
+        x.remove(5);
+        x.work(500);
+        is(x, 3, 2);
+        x.remove(4);
+        x.work(500);
+        is(x, 2, 1);
     }
 
     private static void firstOfSeveral() {
