@@ -1086,6 +1086,9 @@ public final class SearchKeeper {
         }
 
         private void bury(int node) {
+            if (node < 0 || node >= MOST_NODES) {
+                return;
+            }
             int home = homes[node];
             if (home >= 0 && home <= MOST_SEGMENTS) {
                 alive[home]--;
@@ -1111,6 +1114,9 @@ public final class SearchKeeper {
         }
 
         private void close(int closed) {
+            if (closed < 0 || closed >= many) {
+                return;
+            }
             for (int segment = closed; segment + 1 < many && segment < MOST_SEGMENTS; segment++) {
                 alive[segment] = alive[segment + 1];
                 buried[segment] = buried[segment + 1];
@@ -1359,8 +1365,9 @@ public final class SearchKeeper {
                 scores[node] = scoreOf(person, node, word, second);
             }
             for (int node = 0; node < MOST_NODES; node++) {
-                if (scores[node] > 0 && countAhead(node) == place) {
-                    return 100 * scores[node] + node;
+                int score = scores[node];
+                if (score > 0 && countAhead(node, score) == place) {
+                    return 100 * score + node;
                 }
             }
             return NONE;
@@ -1391,11 +1398,11 @@ public final class SearchKeeper {
             return best;
         }
 
-        private int countAhead(int file) {
+        private int countAhead(int file, int score) {
             int ahead = 0;
             for (int node = 0; node < MOST_NODES; node++) {
-                boolean isHigher = scores[node] > scores[file];
-                if (isHigher || (scores[node] == scores[file] && node < file)) {
+                boolean isHigher = scores[node] > score;
+                if (isHigher || (scores[node] == score && node < file)) {
                     ahead++;
                 }
             }

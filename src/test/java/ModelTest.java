@@ -2,9 +2,13 @@ import java.util.List;
 import java.util.Random;
 import java.util.TreeMap;
 
-/** Long runs by chance, always the same ones, on SearchKeeper and on PlainModel beside it. */
+/**
+ * Long runs by chance, always the same ones, on SearchKeeper and on PlainModel beside it. A run has
+ * as many calls as an object is used for.
+ */
 public final class ModelTest {
-    private static final int ACTIONS = 220;
+    private static final int CALLS = 512;
+    private static final int STYLES = 6;
     private final Random random;
     private final SearchKeeper keeper = new SearchKeeper();
     private final PlainModel model = new PlainModel();
@@ -14,22 +18,26 @@ public final class ModelTest {
     private final int wordCount;
     private final int wrongPart;
     private final int containerPart;
-    /** 0: plain; 1: little work at a time; 2: watching changes often; 3: folders, moves, losses. */
+    /**
+     * 0: plain; 1: little work at a time; 2: watching changes often; 3: folders, moves, losses;
+     * 4: nearly all nodes made at first; 5: full texts, and many questions.
+     */
     private final int style;
     private int made = 1;
+    private int calls;
     private boolean isSame = true;
 
     private ModelTest(long seed) {
         random = new Random(seed);
         nameCount = 2 + random.nextInt(25);
         wordCount = 1 + random.nextInt(6);
-        style = random.nextInt(4);
+        style = random.nextInt(STYLES);
         containerPart = isOneIn(2) ? 1000 : 6 + random.nextInt(10);
         wrongPart = 10 + random.nextInt(60);
     }
 
     public static void main(String[] args) {
-        int runs = args.length > 0 ? Integer.parseInt(args[0]) : 500;
+        int runs = args.length > 0 ? Integer.parseInt(args[0]) : 1000;
         long first = args.length > 1 ? Long.parseLong(args[1]) : 0;
         for (int run = 0; run < runs; run++) {
             new ModelTest(first + run).run();
@@ -44,17 +52,20 @@ public final class ModelTest {
     }
 
     private void run() {
-        for (int i = 0; i < 6; i++) {
+        for (int i = 0; i < (style == 4 ? 70 : 6); i++) {
             make();
         }
         watch();
-        for (int i = 0; i < ACTIONS && isSame; i++) {
+        // No action has more than ten calls.
+        while (calls < CALLS - 10 && isSame) {
             act();
             observe();
         }
+        Check.same("calls of a run", 1, calls <= CALLS ? 1 : 0);
     }
 
     private void compare(String call, Check.Call got, Check.Call want) {
+        calls++;
         long due = Check.answerOf(want);
         long answer = Check.answerOf(got);
         told.append(call).append(" = ").append(due).append('\n');
@@ -125,7 +136,7 @@ public final class ModelTest {
     }
 
     private void act() {
-        int chance = random.nextInt(100);
+        int chance = random.nextInt(style == 5 ? 120 : 100);
         if (chance < 14) {
             make();
         } else if (chance < 30) {
@@ -172,7 +183,7 @@ public final class ModelTest {
 
     private void write() {
         int file = file();
-        int times = isOneIn(3) ? 6 : 1;
+        int times = isOneIn(style == 5 ? 2 : 3) ? 6 : 1;
         for (int i = 0; i < times; i++) {
             int mark = mark();
             compare("write(" + file + ", " + mark + ")",
@@ -257,37 +268,48 @@ public final class ModelTest {
         int person = person();
         int word = word();
         int second = second();
-        int folder = folderOrNone();
-        int place = random.nextInt(6) - 1;
         int file = file();
+        int folder = folderOrNone();
+        int place = random.nextInt(isOneIn(3) ? 7 : 2) - (isOneIn(wrongPart) ? 1 : 0);
         String words = "(" + person + ", " + word + ", " + second + ", ";
-        compare("answers" + words + folder + ")",
-                () -> keeper.answers(person, word, second, folder),
-                () -> model.answers(person, word, second, folder));
-        compare("answersAnew" + words + folder + ")",
-                () -> keeper.answersAnew(person, word, second, folder),
-                () -> model.answersAnew(person, word, second, folder));
-        compare("answer" + words + place + ")",
-                () -> keeper.answer(person, word, second, place),
-                () -> model.answer(person, word, second, place));
-        compare("closest(" + person + ", " + file + ", " + word + ", " + second + ")",
-                () -> keeper.closest(person, file, word, second),
-                () -> model.closest(person, file, word, second));
-        compare("mayRead(" + person + ", " + file + ")",
-                () -> keeper.mayRead(person, file) ? 1 : 0, () -> model.mayRead(person, file) ? 1 : 0);
+        switch (random.nextInt(5)) {
+            case 0 -> compare("answers" + words + folder + ")",
+                    () -> keeper.answers(person, word, second, folder),
+                    () -> model.answers(person, word, second, folder));
+            case 1 -> compare("answersAnew" + words + folder + ")",
+                    () -> keeper.answersAnew(person, word, second, folder),
+                    () -> model.answersAnew(person, word, second, folder));
+            case 2 -> compare("answer" + words + place + ")",
+                    () -> keeper.answer(person, word, second, place),
+                    () -> model.answer(person, word, second, place));
+            case 3 -> compare("closest(" + person + ", " + file + ", " + word + ", " + second + ")",
+                    () -> keeper.closest(person, file, word, second),
+                    () -> model.closest(person, file, word, second));
+            default -> compare("mayRead(" + person + ", " + file + ")",
+                    () -> keeper.mayRead(person, file) ? 1 : 0,
+                    () -> model.mayRead(person, file) ? 1 : 0);
+        }
     }
 
+    /** One of the calls that change nothing, behind most actions. */
     private void observe() {
-        compare("nodes()", keeper::nodes, model::nodes);
-        compare("acts()", keeper::acts, model::acts);
-        compare("isQuiet()", () -> keeper.isQuiet() ? 1 : 0, () -> model.isQuiet() ? 1 : 0);
-        compare("entries()", keeper::entries, model::entries);
-        compare("stale()", keeper::stale, model::stale);
-        compare("segments()", keeper::segments, model::segments);
-        compare("dead()", keeper::dead, model::dead);
         int node = node();
-        compare("edition(" + node + ")", () -> keeper.edition(node), () -> model.edition(node));
         int root = root();
-        compare("notices(" + root + ")", () -> keeper.notices(root), () -> model.notices(root));
+        switch (random.nextInt(13)) {
+            case 0 -> compare("nodes()", keeper::nodes, model::nodes);
+            case 1 -> compare("acts()", keeper::acts, model::acts);
+            case 2 -> compare("isQuiet()",
+                    () -> keeper.isQuiet() ? 1 : 0, () -> model.isQuiet() ? 1 : 0);
+            case 3 -> compare("entries()", keeper::entries, model::entries);
+            case 4 -> compare("stale()", keeper::stale, model::stale);
+            case 5 -> compare("segments()", keeper::segments, model::segments);
+            case 6 -> compare("dead()", keeper::dead, model::dead);
+            case 7 -> compare("edition(" + node + ")",
+                    () -> keeper.edition(node), () -> model.edition(node));
+            case 8 -> compare("notices(" + root + ")",
+                    () -> keeper.notices(root), () -> model.notices(root));
+            case 9, 10 -> ask();
+            default -> { }
+        }
     }
 }
