@@ -12,6 +12,7 @@ public final class QuestionsEdgesTest {
         withTheseWords();
         filesThatHaveAnEntry();
         belowTheFolderAsKnown();
+        waysOverEntriesAlone();
         waysEndAtRoots();
         notGone();
         rightsOfNow();
@@ -211,8 +212,41 @@ public final class QuestionsEdgesTest {
         Check.due(2, () -> y.answers(0, 9, NONE, NONE));
     }
 
+    private static void waysOverEntriesAlone() {
+        Check.promise(27, "ways lead over entries alone: not over a folder without one");
+        SearchKeeper x = Given.worked(Given.files(0));
+        x.make(1, 'k', true);
+        x.make(2, 'l', true);
+        x.lose(1, 2);
+        x.make(3, 'f', false);
+        x.write(4, 9);
+        Given.worked(x);
+        Check.due(1, x::entries);
+        Check.due(1, () -> x.answers(0, 9, NONE, NONE));
+        Check.due(1, () -> x.answers(0, 9, NONE, 3));
+        Check.due(0, () -> x.answers(0, 9, NONE, 2));
+        Check.due(0, () -> x.answers(0, 9, NONE, 1));
+        Check.due(0, () -> x.answers(0, 9, NONE, 0));
+        Check.due(1, () -> x.answersAnew(0, 9, NONE, 1));
+        x.move(3, 2, 'm');
+        Check.due(3, () -> x.work(500));
+        Check.due(1, () -> x.answers(0, 9, NONE, 2));
+        Check.due(0, () -> x.answers(0, 9, NONE, 1));
+        x.crawl(1);
+        Given.worked(x);
+        Check.due(1, () -> x.answers(0, 9, NONE, 1));
+        Check.promise(27, "nor over one that lost its entry");
+        x.watch(1);
+        x.watch(3);
+        Check.due(2, () -> x.work(2));
+        Check.due(1, x::entries);
+        x.watch(3);
+        Check.due(1, () -> x.answers(0, 9, NONE, 3));
+        Check.due(0, () -> x.answers(0, 9, NONE, 2));
+    }
+
     private static void waysEndAtRoots() {
-        Check.promise(27, "ways lead over entries alone, and end at roots");
+        Check.promise(27, "ways end at roots");
         SearchKeeper x = nested();
         x.watch(1);
         Check.due(3, () -> x.answers(0, 9, NONE, 1));

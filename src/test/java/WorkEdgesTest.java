@@ -870,6 +870,26 @@ public final class WorkEdgesTest {
         y.lock(5, false);
         Check.due(1, () -> y.work(500));
         Check.due(0, y::stale);
+        Check.promise(18, "at the end of the acts then: what is added after that comes behind it");
+        SearchKeeper w = known();
+        w.lock(2, true);
+        w.empty(5);
+        w.make(4, 'k', false);
+        w.lose(1, 2);
+        w.move(2, 1, 'x');
+        w.crawl(1);
+        // The notice, 2, the crawls of 1 and of 4, which adds 5 and 6: only the first one is done.
+        Check.due(5, () -> w.work(5));
+        Check.due(2, w::acts);
+        Check.due(2, () -> w.edition(5));
+        Check.due(NONE, () -> w.edition(6));
+        w.lock(2, false);
+        Check.due(2, w::stale);
+        Check.due(1, () -> w.work(1));
+        Check.due(1, w::acts);
+        Check.due(NONE, () -> w.edition(6));
+        Check.due(1, () -> w.work(500));
+        Check.due(0, w::stale);
         Check.promise(18, "one step left: it is put off, and the work ends");
         y.lock(5, true);
         y.empty(2);
@@ -1332,6 +1352,18 @@ public final class WorkEdgesTest {
         Check.due(1, () -> x.crawl(6));
         Check.due(6 + 1, () -> x.work(500));
         Check.due(1, x::entries);
+        Check.promise(6, "a LOOK for each entry, by rising numbers");
+        SearchKeeper w = Given.worked(Given.files(4));
+        w.empty(4);
+        Check.due(1, () -> w.work(1));
+        w.remove(1);
+        Check.due(4, w::acts);
+        // 4 has its place already, then 2, 3 and 5.
+        for (int file : new int[] {4, 2, 3, 5}) {
+            Check.due(1, () -> w.edition(file));
+            Check.due(1, () -> w.work(1));
+            Check.due(NONE, () -> w.edition(file));
+        }
         Check.promise(6, "without an entry no LOOK is added");
         SearchKeeper y = Given.files(1);
         y.remove(1);
