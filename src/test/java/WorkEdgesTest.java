@@ -1264,6 +1264,20 @@ public final class WorkEdgesTest {
         Check.due(2, () -> y.work(2));
         Check.due(1, () -> y.crawl(1));
         Check.due(4, () -> y.work(500));
+        Check.promise(19, "begun and begun again: the root waits once, the folder 0, too");
+        for (int root = 0; root < 2; root++) {
+            int each = root;
+            SearchKeeper w = new SearchKeeper();
+            w.make(0, 'r', true);
+            w.make(root, 'f', false);
+            w.watch(root);
+            Given.worked(w);
+            Check.due(1, () -> w.crawl(each));
+            Check.due(1, () -> w.crawl(each));
+            // Below the folder 0 lies the folder 1, too.
+            Check.due(each == 0 ? 2 : 1, () -> w.work(500));
+            Check.due(true, w::isQuiet);
+        }
         Check.promise(19, "of a root that is flooded: it stays flooded");
         SearchKeeper z = Given.worked(Given.files(1));
         Given.flood(z, 2);
