@@ -22,6 +22,30 @@ final class Given {
         return x;
     }
 
+    /** A root 1 (r) with files 2 (f), 3 (g), and a folder 4 (a) with a file 5 (h); none is known. */
+    static SearchKeeper house() {
+        SearchKeeper x = new SearchKeeper();
+        x.make(0, 'r', true);
+        x.make(1, 'f', false);
+        x.make(1, 'g', false);
+        x.make(1, 'a', true);
+        x.make(4, 'h', false);
+        x.watch(1);
+        return x;
+    }
+
+    /** Folders 1 (r), 2 (s), 3 (t), 4 (u) at the top; in 1 the folder 5 (a), in that the file 6 (f). */
+    static SearchKeeper four() {
+        SearchKeeper x = new SearchKeeper();
+        x.make(0, 'r', true);
+        x.make(0, 's', true);
+        x.make(0, 't', true);
+        x.make(0, 'u', true);
+        x.make(1, 'a', true);
+        x.make(5, 'f', false);
+        return x;
+    }
+
     static SearchKeeper worked(SearchKeeper x) {
         x.work(500);
         return x;

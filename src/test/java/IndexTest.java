@@ -13,24 +13,6 @@ public final class IndexTest {
         Check.end("IndexTest");
     }
 
-    /** A root 1 (r) with the files 2 (a), 3 (b) and so on, not known yet. */
-    private static SearchKeeper files(int many) {
-        SearchKeeper x = new SearchKeeper();
-        x.make(0, 'r', true);
-        for (int i = 0; i < many; i++) {
-            x.make(1, (char) ('a' + i), false);
-        }
-        x.watch(1);
-        return x;
-    }
-
-    private static void reread(SearchKeeper x, int... files) {
-        for (int file : files) {
-            x.empty(file);
-        }
-        x.work(500);
-    }
-
     private static void is(SearchKeeper x, int segments, int dead) {
         Check.due(segments, x::segments);
         Check.due(dead, x::dead);
@@ -38,7 +20,7 @@ public final class IndexTest {
 
     private static void oneSegmentForAWork() {
         Check.promise(25, "one segment for a work, if files were read in it");
-        SearchKeeper x = files(4);
+        SearchKeeper x = Given.files(4);
         is(x, 0, 0);
         Check.due(1, () -> x.work(1));
         is(x, 0, 0);
@@ -52,7 +34,7 @@ public final class IndexTest {
         is(x, 3, 0);
 
         Check.promise(25, "folders have no place");
-        SearchKeeper y = files(0);
+        SearchKeeper y = Given.files(0);
         y.make(1, 'a', true);
         y.work(500);
         Check.due(1, y::entries);
@@ -64,10 +46,10 @@ public final class IndexTest {
 
     private static void deadPlaces() {
         Check.promise(26, "an entry that got an edition, or went, leaves a dead place");
-        SearchKeeper x = files(5);
+        SearchKeeper x = Given.files(5);
         x.work(500);
         is(x, 1, 0);
-        reread(x, 2, 3);
+        Given.reread(x, 2, 3);
         is(x, 2, 2);
         x.remove(4);
         is(x, 2, 2);
@@ -87,16 +69,16 @@ public final class IndexTest {
 
     private static void segmentsTakenAway() {
         Check.promise(25, "a segment without places that are not dead is taken away");
-        SearchKeeper x = files(2);
+        SearchKeeper x = Given.files(2);
         x.work(500);
         is(x, 1, 0);
-        reread(x, 2, 3);
+        Given.reread(x, 2, 3);
         is(x, 1, 0);
-        reread(x, 2);
+        Given.reread(x, 2);
         is(x, 2, 1);
-        reread(x, 2);
+        Given.reread(x, 2);
         is(x, 2, 1);
-        reread(x, 3);
+        Given.reread(x, 3);
         is(x, 2, 0);
         x.remove(2);
         x.work(500);
@@ -111,24 +93,24 @@ public final class IndexTest {
 
     private static void merges() {
         Check.promise(25, "more than three: the neighbours with the fewest places become one");
-        SearchKeeper x = files(9);
+        SearchKeeper x = Given.files(9);
         x.work(500);
-        reread(x, 2, 3, 4);
-        reread(x, 5);
+        Given.reread(x, 2, 3, 4);
+        Given.reread(x, 5);
         is(x, 3, 4);
-        reread(x, 6);
+        Given.reread(x, 6);
         // 9 places with 5 dead, 3, 1 and 1: the last two become one.
         is(x, 3, 5);
-        reread(x, 2, 3);
+        Given.reread(x, 2, 3);
         // 9/5, 3/2, 2/0, 2/0: again the last two.
         is(x, 3, 7);
-        reread(x, 7, 8, 9, 10);
+        Given.reread(x, 7, 8, 9, 10);
         // 9/9 goes before anything is merged: 3/2, 4/0, 4/0 are left.
         is(x, 3, 2);
-        reread(x, 4);
+        Given.reread(x, 4);
         // 3/3 goes.
         is(x, 3, 0);
-        reread(x, 5);
+        Given.reread(x, 5);
         // 4/1, 4/0, 1/0, 1/0: the last two, of 4 and of 5, become one.
         is(x, 3, 1);
         x.remove(5);
@@ -141,7 +123,7 @@ public final class IndexTest {
 
     private static void firstOfSeveral() {
         Check.promise(25, "of several the first ones, and only their dead places go");
-        SearchKeeper x = files(0);
+        SearchKeeper x = Given.files(0);
         for (int file = 2; file <= 9; file += 2) {
             x.make(1, (char) ('a' + file), false);
             x.make(1, (char) ('b' + file), false);
@@ -157,14 +139,14 @@ public final class IndexTest {
         x.work(500);
         // 2/1, 2/0, 2/1 and the new one of 8 and 9: 2/0. The first two become one: 3/0, 2/1, 2/0.
         is(x, 3, 1);
-        reread(x, 3);
+        Given.reread(x, 3);
         // 3/1, 2/1, 2/0, 1/0: the last two become one.
         is(x, 3, 2);
     }
 
     private static void mergesCountDeadPlaces() {
         Check.promise(25, "dead places count when the fewest are sought");
-        SearchKeeper x = files(6);
+        SearchKeeper x = Given.files(6);
         x.work(500);
         x.make(1, 'k', false);
         x.work(500);
@@ -185,17 +167,17 @@ public final class IndexTest {
         x.work(500);
         // 6/5, 1/0, 4/0, 1/0: the sums are 7, 5, 5, so the second and third ones become one.
         is(x, 3, 5);
-        reread(x, 8);
+        Given.reread(x, 8);
         // 6/5, 5/1, 1/0, 1/0: the last two become one.
         is(x, 3, 6);
-        reread(x, 7);
+        Given.reread(x, 7);
         // 6/6 goes: 5/1, 2/0, 1/0.
         is(x, 3, 1);
     }
 
     private static void goneAndBack() {
         Check.promise(26, "an entry that goes and comes back in one work");
-        SearchKeeper x = files(3);
+        SearchKeeper x = Given.files(3);
         x.work(500);
         is(x, 1, 0);
         x.move(2, 0, 'q');

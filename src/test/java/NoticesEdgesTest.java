@@ -36,21 +36,9 @@ public final class NoticesEdgesTest {
         Check.end("NoticesEdgesTest");
     }
 
-    /** The folders 1 (r), 2 (s), 3 (t), 4 (u) at the top; in 1 the folder 5 (a), in that 6 (f). */
-    private static SearchKeeper four() {
-        SearchKeeper x = new SearchKeeper();
-        x.make(0, 'r', true);
-        x.make(0, 's', true);
-        x.make(0, 't', true);
-        x.make(0, 'u', true);
-        x.make(1, 'a', true);
-        x.make(5, 'f', false);
-        return x;
-    }
-
     private static void threeAreWatched() {
         Check.promise(11, "at most 3 folders are watched");
-        SearchKeeper x = four();
+        SearchKeeper x = Given.four();
         Check.due(1, () -> x.watch(1));
         Check.due(2, () -> x.watch(2));
         Check.due(3, () -> x.watch(3));
@@ -68,7 +56,7 @@ public final class NoticesEdgesTest {
 
     private static void threeWithGoneOnes() {
         Check.promise(11, "what is gone is not watched");
-        SearchKeeper x = four();
+        SearchKeeper x = Given.four();
         x.watch(5);
         x.watch(2);
         x.watch(3);
@@ -84,7 +72,7 @@ public final class NoticesEdgesTest {
     private static void eachOneGone() {
         Check.promise(11, "what is gone is not watched: the first, the second, the third one");
         for (int gone = 1; gone < 4; gone++) {
-            SearchKeeper x = four();
+            SearchKeeper x = Given.four();
             x.watch(1);
             x.watch(2);
             x.watch(3);
@@ -96,7 +84,7 @@ public final class NoticesEdgesTest {
             Check.due(3, () -> x.watch(4));
         }
         Check.promise(11, "all three at once");
-        SearchKeeper x = four();
+        SearchKeeper x = Given.four();
         x.watch(1);
         x.watch(2);
         x.watch(3);
@@ -110,7 +98,7 @@ public final class NoticesEdgesTest {
         Check.due(INDEX, () -> x.notices(3));
         Check.promise(11, "two of three at once: the other one stays");
         for (int stays = 1; stays < 4; stays++) {
-            SearchKeeper y = four();
+            SearchKeeper y = Given.four();
             y.watch(1);
             y.watch(2);
             y.watch(3);
@@ -129,7 +117,7 @@ public final class NoticesEdgesTest {
 
     private static void watchedAgain() {
         Check.promise(11, "its notices go: none of them is there when it is watched again");
-        SearchKeeper x = four();
+        SearchKeeper x = Given.four();
         x.watch(1);
         Given.worked(x);
         Given.empty(x, 6, 3);
@@ -149,7 +137,7 @@ public final class NoticesEdgesTest {
         Check.due(2, () -> x.watch(3));
         Check.due(0, () -> x.notices(3));
         Check.promise(11, "it is the last one in order then");
-        SearchKeeper y = four();
+        SearchKeeper y = Given.four();
         y.make(2, 'f', false);
         y.watch(1);
         y.watch(2);
@@ -165,7 +153,7 @@ public final class NoticesEdgesTest {
 
     private static void noneBelowAnother() {
         Check.promise(11, "one that is watched is below it, or it below one");
-        SearchKeeper x = four();
+        SearchKeeper x = Given.four();
         x.make(5, 'b', true);
         x.watch(5);
         Check.due(STATE, () -> x.watch(0));
@@ -184,7 +172,7 @@ public final class NoticesEdgesTest {
 
     private static void noneBelowAnotherByMoves() {
         Check.promise(5, "or a root would be below another one then");
-        SearchKeeper x = four();
+        SearchKeeper x = Given.four();
         x.make(2, 'b', true);
         x.make(3, 'c', true);
         x.watch(5);
@@ -206,7 +194,7 @@ public final class NoticesEdgesTest {
 
     private static void theTopAsRoot() {
         Check.promise(11, "the folder 0 may be watched: all else is below it");
-        SearchKeeper x = four();
+        SearchKeeper x = Given.four();
         Check.due(1, () -> x.watch(0));
         Check.due(STATE, () -> x.watch(1));
         Check.due(7, () -> x.make(0, 'x', false));
@@ -221,7 +209,7 @@ public final class NoticesEdgesTest {
 
     private static void rootAsLongAsNotGone() {
         Check.promise(12, "a watched folder is a root as long as it is not gone");
-        SearchKeeper x = four();
+        SearchKeeper x = Given.four();
         x.watch(5);
         x.watch(2);
         Check.due(0, () -> x.notices(5));
@@ -337,7 +325,7 @@ public final class NoticesEdgesTest {
 
     private static void queuesAreAlone() {
         Check.promise(12, "each root has a queue of its own");
-        SearchKeeper x = four();
+        SearchKeeper x = Given.four();
         x.make(2, 'f', false);
         x.watch(1);
         x.watch(2);
@@ -355,7 +343,7 @@ public final class NoticesEdgesTest {
 
     private static void cameIsTold() {
         Check.promise(12, "a node that is made below a root makes it CAME there");
-        SearchKeeper x = four();
+        SearchKeeper x = Given.four();
         x.watch(1);
         Given.worked(x);
         Check.due(7, () -> x.make(1, 'k', false));
@@ -374,7 +362,7 @@ public final class NoticesEdgesTest {
 
     private static void writtenIsTold() {
         Check.promise(12, "a write below a root WRITTEN");
-        SearchKeeper x = four();
+        SearchKeeper x = Given.four();
         x.make(0, 'f', false);
         x.make(1, 'f', false);
         x.watch(1);
@@ -392,7 +380,7 @@ public final class NoticesEdgesTest {
 
     private static void goneIsTold() {
         Check.promise(12, "a removal of a node below a root GONE");
-        SearchKeeper x = four();
+        SearchKeeper x = Given.four();
         x.make(1, 'g', false);
         x.watch(1);
         x.watch(2);
@@ -413,7 +401,7 @@ public final class NoticesEdgesTest {
 
     private static void movesWithin() {
         Check.promise(5, "below a root, and stays below it, also to where it lies already: CAME");
-        SearchKeeper x = four();
+        SearchKeeper x = Given.four();
         x.watch(1);
         Given.worked(x);
         Check.due(5, () -> x.move(6, 5, 'f'));
@@ -433,7 +421,7 @@ public final class NoticesEdgesTest {
 
     private static void movesOutAndIn() {
         Check.promise(5, "GONE at the root that it was below, if there is one");
-        SearchKeeper x = four();
+        SearchKeeper x = Given.four();
         x.watch(1);
         Given.worked(x);
         Check.due(5, () -> x.move(6, 0, 'f'));
@@ -462,7 +450,7 @@ public final class NoticesEdgesTest {
 
     private static void movesFromRootToRoot() {
         Check.promise(5, "from the root watched first to another one: GONE there, CAME here");
-        SearchKeeper x = four();
+        SearchKeeper x = Given.four();
         x.watch(1);
         x.watch(2);
         Given.worked(x);
@@ -484,7 +472,7 @@ public final class NoticesEdgesTest {
 
     private static void movesOfRootsAndOfWhatIsAboveThem() {
         Check.promise(5, "a root is below no root: its move tells nothing, nor that of what it is below");
-        SearchKeeper x = four();
+        SearchKeeper x = Given.four();
         x.watch(5);
         x.watch(2);
         Given.worked(x);
@@ -500,7 +488,7 @@ public final class NoticesEdgesTest {
 
     private static void movesAndFullQueues() {
         Check.promise(5, "GONE to a full queue floods; CAME comes to the other root");
-        SearchKeeper x = four();
+        SearchKeeper x = Given.four();
         x.make(2, 'k', false);
         x.watch(1);
         x.watch(2);
@@ -522,7 +510,7 @@ public final class NoticesEdgesTest {
 
     private static void whatLiesInAFolder() {
         Check.promise(5, "what lies in a folder makes no notices of its own");
-        SearchKeeper x = four();
+        SearchKeeper x = Given.four();
         x.make(5, 'b', true);
         x.make(7, 'g', false);
         x.watch(1);

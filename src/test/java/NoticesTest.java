@@ -15,21 +15,9 @@ public final class NoticesTest {
         Check.end("NoticesTest");
     }
 
-    /** Folders 1 (r), 2 (s), 3 (t), 4 (u) at the top, folder 5 (a) in 1, file 6 (f) in 5. */
-    private static SearchKeeper small() {
-        SearchKeeper x = new SearchKeeper();
-        x.make(0, 'r', true);
-        x.make(0, 's', true);
-        x.make(0, 't', true);
-        x.make(0, 'u', true);
-        x.make(1, 'a', true);
-        x.make(5, 'f', false);
-        return x;
-    }
-
     private static void watch() {
         Check.promise(11, "three at most");
-        SearchKeeper x = small();
+        SearchKeeper x = Given.four();
         Check.due(1, () -> x.watch(1));
         Check.due(false, x::isQuiet);
         Check.due(2, () -> x.watch(2));
@@ -41,7 +29,7 @@ public final class NoticesTest {
         Check.due(0, () -> x.notices(4));
 
         Check.promise(11, "none below another one");
-        SearchKeeper y = small();
+        SearchKeeper y = Given.four();
         Check.due(1, () -> y.watch(5));
         Check.due(STATE, () -> y.watch(1));
         Check.due(STATE, () -> y.watch(0));
@@ -61,7 +49,7 @@ public final class NoticesTest {
 
     private static void watchNoMore() {
         Check.promise(11, "what is watched is crawled; watched no more, its notices and crawl go");
-        SearchKeeper x = small();
+        SearchKeeper x = Given.four();
         x.watch(1);
         Check.due(4, () -> x.work(500));
         Check.due(2, x::entries);
@@ -80,7 +68,7 @@ public final class NoticesTest {
         Check.due(true, x::isQuiet);
 
         Check.promise(11, "watched again, it is the last one, without its old notices or flood");
-        SearchKeeper y = small();
+        SearchKeeper y = Given.four();
         y.watch(1);
         y.watch(2);
         y.work(500);
@@ -100,7 +88,7 @@ public final class NoticesTest {
 
     private static void goneRoots() {
         Check.promise(6, "a root that is gone is watched no more");
-        SearchKeeper x = small();
+        SearchKeeper x = Given.four();
         x.watch(5);
         x.watch(2);
         x.watch(3);
@@ -128,7 +116,7 @@ public final class NoticesTest {
         Check.due(0, x::acts);
 
         Check.promise(6, "two roots gone at once");
-        SearchKeeper y = small();
+        SearchKeeper y = Given.four();
         y.make(1, 'b', true);
         y.watch(5);
         y.watch(2);
@@ -146,7 +134,7 @@ public final class NoticesTest {
 
     private static void whatNoticesCome() {
         Check.promise(12, "makes, writes and removals below roots tell it");
-        SearchKeeper x = small();
+        SearchKeeper x = Given.four();
         x.watch(1);
         x.watch(2);
         Check.due(7, () -> x.make(1, 'b', true));
@@ -173,7 +161,7 @@ public final class NoticesTest {
 
     private static void whatMovesTell() {
         Check.promise(5, "within a root it came, also to where it lies already");
-        SearchKeeper x = small();
+        SearchKeeper x = Given.four();
         x.watch(1);
         x.watch(2);
         x.work(500);
@@ -217,7 +205,7 @@ public final class NoticesTest {
 
     private static void notices() {
         Check.promise(12, "eight at most, then a flood");
-        SearchKeeper x = small();
+        SearchKeeper x = Given.four();
         x.watch(1);
         x.work(500);
         for (int i = 1; i <= 8; i++) {
@@ -245,7 +233,7 @@ public final class NoticesTest {
 
     private static void twice() {
         Check.promise(13, "the last notice once more");
-        SearchKeeper x = small();
+        SearchKeeper x = Given.four();
         x.watch(1);
         x.work(500);
         Check.due(STATE, () -> x.twice(1));
@@ -279,7 +267,7 @@ public final class NoticesTest {
 
     private static void lose() {
         Check.promise(14, "the last ones, at most all");
-        SearchKeeper x = small();
+        SearchKeeper x = Given.four();
         x.watch(1);
         x.work(500);
         x.make(1, 'b', false);

@@ -31,29 +31,16 @@ public final class QuestionsTest {
         x.make(1, 'f', false);
         x.make(2, 'f', false);
         x.make(3, 'f', false);
-        fill(x, 4, 9);
-        fill(x, 5, 9, 8);
-        fill(x, 6, 9, 8, 7);
+        Given.fill(x, 4, 9);
+        Given.fill(x, 5, 9, 8);
+        Given.fill(x, 6, 9, 8, 7);
         x.watch(1);
         x.work(500);
         return x;
     }
 
     private static SearchKeeper oneText(int... marks) {
-        SearchKeeper x = new SearchKeeper();
-        x.make(0, 'r', true);
-        x.make(1, 'f', false);
-        fill(x, 2, marks);
-        x.limits(2, 20);
-        x.watch(1);
-        x.work(500);
-        return x;
-    }
-
-    private static void fill(SearchKeeper x, int file, int... marks) {
-        for (int mark : marks) {
-            x.write(file, mark);
-        }
+        return Given.text(2, 20, marks);
     }
 
     private static void answers() {
@@ -257,11 +244,11 @@ public final class QuestionsTest {
         for (int i = 0; i < 5; i++) {
             x.make(1, (char) ('a' + i), false);
         }
-        fill(x, 2, 9);
-        fill(x, 3, 9, 9);
-        fill(x, 4, 9, 8);
-        fill(x, 5, 8, 9, 9);
-        fill(x, 6, 7);
+        Given.fill(x, 2, 9);
+        Given.fill(x, 3, 9, 9);
+        Given.fill(x, 4, 9, 8);
+        Given.fill(x, 5, 8, 9, 9);
+        Given.fill(x, 6, 7);
         x.watch(1);
         x.work(500);
         Check.due(203, () -> x.answer(0, 9, NONE, 0));

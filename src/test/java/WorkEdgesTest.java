@@ -60,14 +60,7 @@ public final class WorkEdgesTest {
 
     /** A root 1 (r) with files 2 (f) and 3 (g), and a folder 4 (a) with a file 5 (h); all known. */
     private static SearchKeeper known() {
-        SearchKeeper x = new SearchKeeper();
-        x.make(0, 'r', true);
-        x.make(1, 'f', false);
-        x.make(1, 'g', false);
-        x.make(1, 'a', true);
-        x.make(4, 'h', false);
-        x.watch(1);
-        return Given.worked(x);
+        return Given.worked(Given.house());
     }
 
     private static void crawledAndWorked(SearchKeeper x, int root) {

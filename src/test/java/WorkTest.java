@@ -33,22 +33,10 @@ public final class WorkTest {
 
     /** A root 1 (r) with files 2 (f) and 3 (g), and a folder 4 (a) with a file 5 (h); all known. */
     private static SearchKeeper known() {
-        SearchKeeper x = new SearchKeeper();
-        x.make(0, 'r', true);
-        x.make(1, 'f', false);
-        x.make(1, 'g', false);
-        x.make(1, 'a', true);
-        x.make(4, 'h', false);
-        x.watch(1);
+        SearchKeeper x = Given.house();
         Check.due(6, () -> x.work(500));
         Check.due(4, x::entries);
         return x;
-    }
-
-    private static void fill(SearchKeeper x, int file, int... marks) {
-        for (int mark : marks) {
-            x.write(file, mark);
-        }
     }
 
     private static void pass() {
@@ -172,7 +160,7 @@ public final class WorkTest {
 
         Check.promise(17, "entries stay as they are");
         SearchKeeper y = known();
-        fill(y, 2, 1, 2, 3);
+        Given.fill(y, 2, 1, 2, 3);
         y.work(500);
         Check.due(12, () -> y.limits(0, 1));
         Check.due(1, () -> y.answers(0, 3, NONE, 1));
@@ -191,7 +179,7 @@ public final class WorkTest {
     /** The words that are taken, one after the other: 100 for each place, and the word. */
     private static void taken(int depth, int words, int[] marks, int... due) {
         SearchKeeper x = known();
-        fill(x, 2, marks);
+        Given.fill(x, 2, marks);
         x.limits(depth, words);
         x.work(500);
         Check.due(marks.length + 1, () -> x.edition(2));
@@ -340,7 +328,7 @@ public final class WorkTest {
     private static void reading() {
         Check.promise(18, "a step, and one for each mark, unless the edition is known");
         SearchKeeper x = known();
-        fill(x, 2, 1, OPEN, CLOSE);
+        Given.fill(x, 2, 1, OPEN, CLOSE);
         Check.due(3, () -> x.work(3));
         Check.due(0, () -> x.work(3));
         Check.due(1, () -> x.edition(2));
